@@ -78,6 +78,7 @@ public final class PromiseTests {
         promise37();
         promise38();
         slotsAreEmptied();
+        largestYard();
         System.out.println(asked + " answers asked, " + wrong + " wrong");
         if (wrong != 0) System.exit(1);
     }
@@ -882,6 +883,54 @@ public final class PromiseTests {
         row = 0;
         for (int c = 0; c < 5; c++) row = 2 * row + y.cell(c, true);
         due("38 as if taken ahead: 1 0 0 1 1", row, 19);
+    }
+
+    /** Every row inside is full: what goes beyond one shows here. */
+    private static void largestYard() {
+        y = new PavedYards();
+        y.yard(8, 8);
+        for (int what = 0; what < 8; what++) due("8x8 count " + what, y.count(what), new int[] {8, 8, 64, 32, 112, 0, 0, 0}[what]);
+        for (int b = 126; b < 131; b++) {
+            due("8x8 want " + b, y.want(b, 1), BAD);
+            due("8x8 price " + b, y.price(b, 1), BAD);
+            due("8x8 share " + b, y.share(b), BAD);
+        }
+        due("8x8 last brick", y.want(124, 1), 0);
+        due("8x8 last upright brick", y.want(111, 2), 0);
+        due("8x8 must", y.count(5), 1);
+        due("8x8 may not", y.count(6), 1);
+        due("8x8 last cell", y.cell(63, false), 1);
+        due("8x8 must went", y.count(5), 0);
+        due("8x8 may not went", y.count(6), 0);
+        due("8x8 without the last", y.sure(0), NONE);
+        due("8x8 without the last", y.bar(1, 0), 32);
+        due("8x8 without the last", y.bar(1, 1), 31);
+        due("8x8 last cell", y.bars(1, 62), 2);
+        due("8x8 not pavable", y.sound(), 0);
+        due("8x8 whole", y.whole(), 1);
+        due("8x8 last cell", y.cell(63, true), 0);
+        due("8x8 beyond", y.cell(64, true), BAD);
+        due("8x8 sure", y.sure(0), 0);
+        due("8x8 last", y.place(0, 12988815), 32);
+        due("8x8 last corner", y.height(0, 8, 8), 0);
+        due("8x8 beyond", y.height(0, 9, 8), -1001);
+        due("8x8 beyond", y.height(0, 8, 9), -1001);
+        due("8x8 turn at the last corner", y.turn(0, 8, 8), NOT);
+        due("8x8 turn inside", y.turn(0, 7, 7), 1);
+        due("8x8 beyond", y.turn(0, 8, 9), BAD);
+        due("8x8 cheapest", y.cheapest(1), 0);
+        due("8x8 lines", y.lines(1), 84);
+        due("8x8 rings", y.rings(0, 1), 15);
+        for (int i = 0; i < 64; i++) y.cell(i, false);
+        due("8x8 all closed", y.pavings(), 1);
+        due("8x8 all closed", y.count(4), 0);
+        due("8x8 all closed", y.whole(), 0);
+        y.sheet(0, 0, 64);
+        for (int i = 0; i < 64; i++) y.item(0, 0, i, 1);
+        due("8x8 laid", y.lay(0, 0, 0), 64);
+        due("8x8 laid at the end", y.lay(64, 0, 64), 0);
+        due("8x8 laid beyond", y.lay(65, 0, 64), BAD);
+        due("8x8 laid", y.pavings(), 12988816);
     }
 
     private static void slotsAreEmptied() {
