@@ -450,7 +450,9 @@ public final class PavedYards {
 
         /** The cell that a brick lies on beside its first one; -1, if that is closed or beyond. */
         int secondCell(int b) {
-            return beside(b / 2, b % 2 == 0 ? 2 : 3);
+            int x = column(b / 2);
+            int y = row(b / 2);
+            return b % 2 == 0 ? openAt(x + 1, y) : openAt(x, y + 1);
         }
 
         boolean stands(int b) {
