@@ -348,12 +348,12 @@ public final class PavedYards {
         return shape.isWhole(yard) ? 0 : NOT;
     }
 
-    /** A slot without a paving comes first: only two pavings have rings, of which one may be missing. */
+    /** No ring is ever numbered below 0, so that is BAD even where a slot's paving is missing. */
     private int ringFault(int a, int b, int i) {
+        if (i < 0) return BAD;
         int fault = slotsFault(a, b);
         if (fault < 0) return fault;
-        int n = rounds.trace(yard, slots[a], slots[b]);
-        return i >= 0 && i < n ? 0 : BAD;
+        return i < rounds.trace(yard, slots[a], slots[b]) ? 0 : BAD;
     }
 
     private int sheetFault(int sheet, int lane) {

@@ -927,15 +927,17 @@ public final class ModelTests {
         }
 
         int ring(int a, int b, int i) {
+            if (i < 0) return BAD;
             int n = rings(a, b);
             if (n < 0) return n;
-            return i < 0 || i >= n ? BAD : ringsOf(slots.get(a), slots.get(b)).get(i).size();
+            return i >= n ? BAD : ringsOf(slots.get(a), slots.get(b)).get(i).size();
         }
 
         int wind(int a, int b, int i) {
+            if (i < 0) return BAD;
             int n = rings(a, b);
             if (n < 0) return n;
-            if (i < 0 || i >= n) return BAD;
+            if (i >= n) return BAD;
             TreeSet<Integer> cells = ringsOf(slots.get(a), slots.get(b)).get(i);
             Set<Integer> p = new TreeSet<>();
             int others = 0;

@@ -750,8 +750,14 @@ public final class PromiseTests {
         due("32 none", y.rings(0, 1), NONE);
         due("33 none", y.ring(0, 1, 0), NONE);
         due("34 none", y.wind(0, 1, 0), NONE);
+        due("33 below, ahead of none", y.ring(0, 1, -1), BAD);
+        due("34 below, ahead of none", y.wind(0, 1, MIN), BAD);
         y.place(0, 0);
         due("32 none of the other", y.rings(0, 1), NONE);
+        due("33 none of the other", y.ring(0, 1, 0), NONE);
+        due("34 none of the other", y.wind(1, 0, 0), NONE);
+        due("33 below, ahead of none of the other", y.ring(1, 0, MIN), BAD);
+        due("34 below, ahead of none of the other", y.wind(0, 1, -1), BAD);
         due("32 itself", y.rings(0, 0), 0);
         due("33 no such", y.ring(0, 0, 0), BAD);
         due("34 no such", y.wind(0, 0, 0), BAD);
