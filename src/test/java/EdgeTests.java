@@ -1,3 +1,4 @@
+import java.util.Arrays;
 import java.util.Set;
 import java.util.TreeSet;
 import java.util.function.Supplier;
@@ -195,7 +196,7 @@ public final class EdgeTests {
         return one;
     }
 
-    // ---- all that can be seen of an object (in some 350 calls, of the 512 that it has)
+    // ---- all that can be seen of an object (in some 300 calls, of the 512 that it has)
 
     private static String seen(PavedYards one) {
         StringBuilder all = new StringBuilder("count");
@@ -324,6 +325,10 @@ public final class EdgeTests {
             due("price(" + b + ", 0)", y.price(b, 0), 0);
         }
         due("bricks that there are", standing, 24);
+        says(1, "An object is used for at most 512 calls after it has been made: the last of them answers, too");
+        y = new PavedYards();
+        for (int call = 1; call < 512; call++) y.cell(call % 16, call <= 500);
+        due("count(2) as call 512", y.count(2), 5);
         says(1, "an object is new: what another one holds does not show in it");
         String fresh = seen(new PavedYards());
         PavedYards other = rich();
@@ -466,7 +471,7 @@ public final class EdgeTests {
         says(4, "BAD: .. a byte not 32 .. 126");
         for (int k = 0; k < 8; k++) {
             long others = dots & ~(255L << 8 * k);
-            for (long b : new long[] {0, 31, 127, 128, 255}) {
+            for (long b : new long[] {0, 31, 127, 128, 160, 174, 254, 255}) {
                 long w = others | b << 8 * k;
                 stays(RICH, "type of byte " + b + " at " + k, x -> x.type(w, 8), BAD);
                 if (k > 0) due("byte " + b + " above the lowest " + k, rich().type(w, k), 5 + k);
@@ -606,6 +611,10 @@ public final class EdgeTests {
         for (int s : OFF_FOUR) stays(RICH, "lay(0, " + s + ", 0)", x -> x.lay(0, s, 0), BAD);
         says(6, "NULL");
         stays(RICH, "lay(0, 3, 0)", x -> x.lay(0, 3, 0), NULL);
+        for (int s = 0; s < 3; s++) {
+            int sheet = s;
+            stays(and(RICH, "SHEET " + s + " dropped", x -> x.drop(sheet)), "lay(0, " + s + ", 0)", x -> x.lay(0, sheet, 0), NULL);
+        }
         says(6, "CAST (taken as a row of booleans)");
         stays(RICH, "lay(0, 1, 0)", x -> x.lay(0, 1, 0), CAST);
         stays(RICH, "lay(0, 2, 0)", x -> x.lay(0, 2, 0), CAST);
@@ -678,7 +687,6 @@ public final class EdgeTests {
         y = new PavedYards();
         y.yard(8, 8);
         for (int b = 0; b < 128; b++) y.want(b, 1 + b % 2);
-        for (int s = 0; s < 4; s++) y.bricks(s, 0, 1);
         counts("all of 8 by 8", y, 8, 8, 64, 32, 112, 56, 56, 0);
         says(7, "7 SLOTS that hold one: none to four");
         y = new PavedYards();
@@ -895,6 +903,7 @@ public final class EdgeTests {
             due("rank(" + s + ")", y.rank(s), 5);
             for (int o = 0; o < 3; o++) if (o != s) due("rank(" + o + ") stays", y.rank(o), new int[] {0, 1, NOT}[o]);
         }
+        for (int s : OFF_FOUR) stays(RICH, "place(" + s + ", 6)", x -> x.place(s, 6), BAD);
         says(13, "BAD: also no such RANK (among COUNTED PAVINGS)");
         for (long r : new long[] {Long.MIN_VALUE, -1, 6, 11, 12, MAX, 1L << 32, (1L << 32) + 1, Long.MAX_VALUE}) {
             stays(RICH, "place(0, " + r + ")", x -> x.place(0, r), BAD);
@@ -1122,6 +1131,12 @@ public final class EdgeTests {
         says(19, "NULL");
         stays(good, "bricks(0, 3, 1)", x -> x.bricks(0, 3, 1), NULL);
         stays(good, "bricks(3, 3, 2)", x -> x.bricks(3, 3, 2), NULL);
+        for (int s = 0; s < 3; s++) {
+            int sheet = s;
+            Start dropped = and(good, "SHEET " + s + " dropped", x -> x.drop(sheet));
+            stays(dropped, "bricks(0, " + s + ", 1)", x -> x.bricks(0, sheet, 1), NULL);
+            stays(dropped, "bricks(0, " + s + ", 2)", x -> x.bricks(0, sheet, 2), NULL);
+        }
         says(19, "CAST");
         stays(good, "bricks(0, 1, 2)", x -> x.bricks(0, 1, 2), CAST);
         stays(good, "bricks(0, 2, 1)", x -> x.bricks(0, 2, 1), CAST);
@@ -1181,7 +1196,7 @@ public final class EdgeTests {
     private static void notPaved(int[][] rows) {
         for (int[] items : rows) {
             Start start = bricksOf(items);
-            String told = java.util.Arrays.toString(items);
+            String told = Arrays.toString(items);
             stays(start, "bricks(0, 2, 2) of ints " + told, x -> x.bricks(0, 2, 2), NOT);
             stays(start, "bricks(3, 2, 2) of ints " + told, x -> x.bricks(3, 2, 2), NOT);
             boolean fits = true;
@@ -1235,6 +1250,7 @@ public final class EdgeTests {
         bars("an odd column", yardOf("#;.;.;."), 0, 0, 2, 1);
         bars("beside the first cell", yardOf("..;.#"), 0, 0, 2, 1);
         bars("beside the last cell", yardOf("#.;.."), 0, 0, 2, 1);
+        bars("one that the first BRICK to hand would leave bare", yardOf("...;.##"), 0, 0, 0, 0);
         bars("two by a corner", yardOf(".#;#."), 2, 0, 0, 0);
         bars("one of each", yardOf(".##."), 1, 0, 1, 0);
         bars("as many DARK as LIGHT", yardOf("...#;####;#..."), 2, 1, 2, 1);
@@ -1323,6 +1339,26 @@ public final class EdgeTests {
         due("by a side to the rim", y.whole(), 1);
         for (int c = 0; c < 64; c++) y.cell(c, false);
         due("all of 8 by 8 closed", y.whole(), 0);
+        oneCellClosed();
+    }
+
+    /** In a row or column only its ends may go; elsewhere each cell at the rim, and none within. */
+    private static void oneCellClosed() {
+        says(23, "closed ones with a frame around THE YARD are one: one cell closed, each in each yard");
+        for (int w = 1; w <= 8; w++) {
+            for (int h = 1; h <= 8; h++) {
+                y = new PavedYards();
+                y.yard(w, h);
+                for (int c = 0; c < w * h; c++) {
+                    boolean end = c == 0 || c == w * h - 1;
+                    boolean rim = c % w == 0 || c % w == w - 1 || c / w == 0 || c / w == h - 1;
+                    boolean whole = w * h > 1 && (w == 1 || h == 1 ? end : rim);
+                    y.cell(c, false);
+                    due("whole() of " + w + " by " + h + " without cell " + c, y.whole(), whole ? 1 : 0);
+                    y.cell(c, true);
+                }
+            }
+        }
     }
 
     private static void promise24() {
@@ -1379,6 +1415,10 @@ public final class EdgeTests {
         y.place(0, 0);
         int[][] horns = {{0, 0, 0}, {1, 0, -1}, {1, 1, -2}, {1, 2, -1}, {2, 2, 0}, {2, 1, 1}, {2, 0, 0}, {3, 0, -1}, {3, 1, -2}, {3, 2, -1}};
         for (int[] at : horns) due("height(0, " + at[0] + ", " + at[1] + ")", y.height(0, at[0], at[1]), at[2]);
+        y = yardOf(".##.;....");
+        y.place(0, 0);
+        int[][] bowl = {{0, 0, 0}, {1, 0, -1}, {1, 1, -2}, {2, 1, -3}, {3, 1, -2}, {3, 0, -1}, {4, 0, 0}, {4, 1, 1}, {0, 1, 1}};
+        for (int[] at : bowl) due("height(0, " + at[0] + ", " + at[1] + ")", y.height(0, at[0], at[1]), at[2]);
         says(24, "CORNERS .. of open cells: of one alone (it is WHOLE, and no PAVING)");
         y = yardOf(".");
         for (int i = 0; i < 4; i++) due("height(0, " + i % 2 + ", " + i / 2 + ")", y.height(0, i % 2, i / 2), HNONE);
@@ -1423,6 +1463,7 @@ public final class EdgeTests {
         stays(RICH, "turn(3, 5, 2): BAD, NONE", x -> x.turn(3, 5, 2), BAD);
         stays(RICH, "turn(3, 0, -1): BAD, NONE", x -> x.turn(3, 0, -1), BAD);
         stays(RICH, "turn(3, 0, 0): NONE, NOT", x -> x.turn(3, 0, 0), NONE);
+        stays(RICH, "turn(4, 0, 0): BAD, NOT", x -> x.turn(4, 0, 0), BAD);
         stays(HOLED, "turn(4, 1, 1): BAD, NOT", x -> x.turn(4, 1, 1), BAD);
         stays(HOLED, "turn(0, 1, 5): BAD, NOT", x -> x.turn(0, 1, 5), BAD);
         stays(HOLED, "turn(3, 1, 1): NONE, NOT", x -> x.turn(3, 1, 1), NONE);
@@ -1878,11 +1919,7 @@ public final class EdgeTests {
                 for (int lane = 0; lane < 3; lane++) due("item behind drop()", y.item(s, lane, 0, 0), NULL);
             }
         }
-        stays(new Start("rich without SHEET 1", () -> {
-            PavedYards one = rich();
-            one.drop(1);
-            return one;
-        }), "drop(1)", x -> x.drop(1), NULL);
+        stays(and(RICH, "SHEET 1 dropped", x -> x.drop(1)), "drop(1)", x -> x.drop(1), NULL);
     }
 
     private static void promise37() {
@@ -1956,6 +1993,14 @@ public final class EdgeTests {
         stays(RICH, "copy(3, 0, 0, 0, 1)", x -> x.copy(3, 0, 0, 0, 1), NULL);
         stays(RICH, "copy(0, 0, 3, 0, 1)", x -> x.copy(0, 0, 3, 0, 1), NULL);
         stays(RICH, "copy(3, 0, 3, 0, 0)", x -> x.copy(3, 0, 3, 0, 0), NULL);
+        for (int s = 0; s < 3; s++) {
+            int other = s;
+            stays(RICH, "copy(3, 0, " + s + ", 0, 1)", x -> x.copy(3, 0, other, 0, 1), NULL);
+            stays(RICH, "copy(" + s + ", 0, 3, 0, 1)", x -> x.copy(other, 0, 3, 0, 1), NULL);
+            Start dropped = and(RICH, "SHEET 2 dropped", x -> x.drop(2));
+            stays(dropped, "copy(2, 0, " + s + ", 0, 1)", x -> x.copy(2, 0, other, 0, 1), NULL);
+            stays(dropped, "copy(" + s + ", 0, 2, 0, 1)", x -> x.copy(other, 0, 2, 0, 1), NULL);
+        }
         says(38, "CAST: of unlike LANES");
         for (int s = 0; s < 3; s++) {
             int from = s;

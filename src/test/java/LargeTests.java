@@ -1,3 +1,4 @@
+import java.util.Arrays;
 import java.util.HashMap;
 import java.util.Map;
 import java.util.Random;
@@ -34,10 +35,8 @@ public final class LargeTests {
     }
 
     private static void makeYard(Random chance, int seed) {
-        y = new PavedYards();
         w = seed % 5 == 0 ? 8 : 4 + chance.nextInt(5);
         h = seed % 5 == 0 ? 8 : 4 + chance.nextInt(5);
-        y.yard(w, h);
         open = -1L >>> 64 - w * h;
         int bricksClosed = seed % 3 == 0 ? 0 : chance.nextInt(9);
         for (int k = 0; k < bricksClosed; k++) {
@@ -48,16 +47,24 @@ public final class LargeTests {
             close(d);
         }
         if (chance.nextInt(4) == 0) close(chance.nextInt(w * h));
-        for (int b = 0; b < 128; b++) {
-            want[b] = 0;
-            price[b] = 0;
-        }
+        Arrays.fill(want, 0);
+        Arrays.fill(price, 0);
         yardText = "seed " + seed + ", " + w + " by " + h;
     }
 
     private static void close(int c) {
-        y.cell(c, false);
         open &= ~(1L << c);
+    }
+
+    /** Another object for the same yard: one alone would have more than its 512 calls. */
+    private static void startAgain() {
+        y = new PavedYards();
+        y.yard(w, h);
+        for (int c = 0; c < w * h; c++) if ((open >> c & 1) == 0) y.cell(c, false);
+        for (int b = 0; b < 128; b++) {
+            if (want[b] != 0) y.want(b, want[b]);
+            if (price[b] != 0) y.price(b, price[b]);
+        }
     }
 
     private static int second(int b) {
@@ -130,8 +137,10 @@ public final class LargeTests {
     }
 
     private static void counts(Random chance) {
+        startAgain();
+        int most = y.most();
         due("pavings()", y.pavings(), counted(-1));
-        due("most()", y.most(), new Memory().most(open));
+        due("most()", most, new Memory().most(open));
         long sound = 0;
         for (int lines = 0; lines < 1 << w; lines += 2) {
             Memory m = new Memory();
@@ -143,7 +152,7 @@ public final class LargeTests {
             int doubts = 0;
             for (int c = 0; c < w * h; c++) {
                 if ((open >> c & 1) == 0) continue;
-                boolean doubt = (c % w + c / w) % 2 == side && new Memory().most(open & ~(1L << c)) == y.most();
+                boolean doubt = (c % w + c / w) % 2 == side && new Memory().most(open & ~(1L << c)) == most;
                 due("bars(" + side + ", " + c + ") is 2", y.bars(side, c) == 2 ? 1 : 0, doubt ? 1 : 0);
                 doubts += doubt ? 1 : 0;
             }
@@ -157,6 +166,8 @@ public final class LargeTests {
             y.want(b, want[b]);
             due("pavings()", y.pavings(), counted(-1));
         }
+        startAgain();
+        long pavings = y.pavings();
         int all = 0;
         int none = 0;
         for (int b = 0; b < 2 * w * h; b++) {
@@ -164,16 +175,17 @@ public final class LargeTests {
             long n = counted(b);
             due("share(" + b + ")", y.share(b), n);
             if (n == 0) none++;
-            if (n == y.pavings()) all++;
+            if (n == pavings) all++;
         }
-        due("sure(0)", y.sure(0), y.pavings() == 0 ? -4 : all);
-        due("sure(1)", y.sure(1), y.pavings() == 0 ? -4 : none);
+        due("sure(0)", y.sure(0), pavings == 0 ? -4 : all);
+        due("sure(1)", y.sure(1), pavings == 0 ? -4 : none);
     }
 
     private static void places(Random chance) {
         long n = y.pavings();
         due("place(0, n)", y.place(0, n), -1);
         for (int k = 0; k < 12 && n > 0; k++) {
+            startAgain();
             long rank = k == 0 ? 0 : k == 1 ? n - 1 : (long) (chance.nextDouble() * n);
             due("place(0, " + rank + ")", y.place(0, rank), Long.bitCount(open) / 2);
             due("rank(0)", y.rank(0), rank);
@@ -202,8 +214,8 @@ public final class LargeTests {
         for (int b = 0; b < 2 * w * h; b++) {
             if (second(b) < 0) continue;
             price[b] = chance.nextInt(dearest);
-            y.price(b, price[b]);
         }
+        startAgain();
         if (y.pavings() == 0) {
             due("cheapest(0)", y.cheapest(0), -4);
             return;
@@ -232,7 +244,9 @@ public final class LargeTests {
     }
 
     private static void heights(Random chance) {
-        for (int b = 0; b < 2 * w * h; b++) y.want(b, 0);
+        Arrays.fill(want, 0);
+        Arrays.fill(price, 0);
+        startAgain();
         long n = y.pavings();
         if (n == 0 || y.whole() == 0) return;
         y.place(0, (long) (chance.nextDouble() * n));

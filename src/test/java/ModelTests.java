@@ -16,7 +16,8 @@ import java.util.TreeSet;
  */
 public final class ModelTests {
     private static final int BAD = -1, NOT = -2, FULL = -3, NONE = -4, NULL = -11, CAST = -12, INDEX = -13, SIZE = -14;
-    private static final int RUNS = 600, CALLS = 512;
+    // One step is up to some 30 calls, and an object has 512.
+    private static final int RUNS = 620, CALLS = 480;
 
     public static void main(String[] args) {
         int wrong = 0;
