@@ -875,7 +875,10 @@ public final class PavedYards {
         }
     }
 
-    /** Places reached from one another, each once, in the order in which they were reached. */
+    /**
+     * Places reached from one another, each once, in the order in which they were reached. It grows
+     * while it is gone through, so that a loop over it has MOST_REACHED as its own bound.
+     */
     private static final class Wave {
         final boolean[] seen = new boolean[MOST_REACHED];
         final int[] places = new int[MOST_REACHED];
@@ -915,7 +918,7 @@ public final class PavedYards {
             Arrays.fill(from, -1);
             wave.clear();
             wave.reach(start);
-            for (int i = 0; i < wave.size; i++) {
+            for (int i = 0; i < MOST_REACHED && i < wave.size; i++) {
                 int dark = wave.places[i];
                 for (int k = 0; k < 4; k++) {
                     int light = yard.beside(dark, k);
@@ -935,6 +938,7 @@ public final class PavedYards {
             int light = end;
             for (int step = 0; step < MOST_CELLS && light >= 0; step++) {
                 int dark = from[light];
+                if (dark < 0) return;
                 int before = mate[dark];
                 mate[dark] = light;
                 mate[light] = dark;
@@ -953,7 +957,7 @@ public final class PavedYards {
             for (int c = 0; c < yard.cells(); c++) {
                 if (yard.open[c] && yard.isDark(c) == dark && mate[c] < 0) wave.reach(c);
             }
-            for (int i = 0; i < wave.size; i++) {
+            for (int i = 0; i < MOST_REACHED && i < wave.size; i++) {
                 int doubtful = wave.places[i];
                 marks[doubtful] = 2;
                 for (int k = 0; k < 4; k++) {
@@ -985,7 +989,7 @@ public final class PavedYards {
             for (int c = 0; c < yard.cells() && wave.size == 0; c++) {
                 if (yard.open[c]) wave.reach(c);
             }
-            for (int i = 0; i < wave.size; i++) {
+            for (int i = 0; i < MOST_REACHED && i < wave.size; i++) {
                 for (int k = 0; k < 4; k++) wave.reach(yard.beside(wave.places[i], k));
             }
             return wave.size > 0 && wave.size == yard.openCells();
@@ -995,7 +999,7 @@ public final class PavedYards {
         boolean closedIsOne(Yard yard) {
             wave.clear();
             wave.reach(0);
-            for (int i = 0; i < wave.size; i++) {
+            for (int i = 0; i < MOST_REACHED && i < wave.size; i++) {
                 for (int k = 0; k < 9; k++) {
                     int x = wave.places[i] % FRAME_IN_ROW + k % 3 - 1;
                     int y = wave.places[i] / FRAME_IN_ROW + k / 3 - 1;
@@ -1037,7 +1041,7 @@ public final class PavedYards {
             for (int i = 0; i < MOST_CORNERS && wave.size == 0; i++) {
                 if (yard.isCorner(i % CORNERS_IN_ROW, i / CORNERS_IN_ROW)) wave.reach(i);
             }
-            for (int i = 0; i < wave.size; i++) {
+            for (int i = 0; i < MOST_REACHED && i < wave.size; i++) {
                 int at = wave.places[i];
                 for (int k = 0; k < 4; k++) {
                     int step = stepFrom(yard, paving, at % CORNERS_IN_ROW, at / CORNERS_IN_ROW, k);
